@@ -958,32 +958,33 @@ public final class AxesAtDawn {
             farTold = false;
             next = 0;
             advance();
-            for (int turn = 0; turn <= SIGNS && kind != END; turn++) {
-                if (!line()) {
-                    break;
+            boolean fine = true;
+            for (int turn = 0; turn <= SIGNS && kind != END && fine; turn++) {
+                switch (wordIn(LINES_OF_LAW)) {
+                    case 0:
+                        fine = barLine();
+                        break;
+                    case 1:
+                        fine = oddLine();
+                        break;
+                    case 2:
+                        fine = ruleLine();
+                        break;
+                    case 3:
+                        fine = sinceLine();
+                        break;
+                    case 4:
+                        fine = farLine();
+                        break;
+                    case 5:
+                        fine = enoughLine();
+                        break;
+                    default:
+                        fine = wrong(CANNOT_STAND);
                 }
             }
             size = 0;
             return fault;
-        }
-
-        private boolean line() {
-            switch (wordIn(LINES_OF_LAW)) {
-                case 0:
-                    return barLine();
-                case 1:
-                    return oddLine();
-                case 2:
-                    return ruleLine();
-                case 3:
-                    return sinceLine();
-                case 4:
-                    return farLine();
-                case 5:
-                    return enoughLine();
-                default:
-                    return wrong(CANNOT_STAND);
-            }
         }
 
         private boolean barLine() {
@@ -1235,9 +1236,9 @@ public final class AxesAtDawn {
             next = place;
             if (place >= size) {
                 kind = END;
-            } else if (isLetter(tape[place])) {
+            } else if (tape[place] >= 'a' && tape[place] <= 'z') {
                 readWord();
-            } else if (isDigit(tape[place])) {
+            } else if (tape[place] >= '0' && tape[place] <= '9') {
                 readNumber();
             } else {
                 kind = "()<=+-*;".indexOf(tape[place]) >= 0 ? SIGN : NO_TOKEN;
@@ -1246,7 +1247,7 @@ public final class AxesAtDawn {
         }
 
         private void readWord() {
-            while (next < size && isLetter(tape[next])) {
+            while (next < size && tape[next] >= 'a' && tape[next] <= 'z') {
                 next++;
             }
             kind = next - place <= LETTERS ? WORD : NO_TOKEN;
@@ -1254,19 +1255,11 @@ public final class AxesAtDawn {
 
         private void readNumber() {
             number = 0;
-            while (next < size && isDigit(tape[next])) {
+            while (next < size && tape[next] >= '0' && tape[next] <= '9') {
                 number = number * 10 + tape[next] - '0';
                 next++;
             }
             kind = next - place <= DIGITS ? NUMBER : NO_TOKEN;
-        }
-
-        private static boolean isLetter(char sign) {
-            return sign >= 'a' && sign <= 'z';
-        }
-
-        private static boolean isDigit(char sign) {
-            return sign >= '0' && sign <= '9';
         }
     }
 
