@@ -208,6 +208,9 @@ public final class PromisesTest {
         due(NONE, x.find(0, 0, 10, 5, 0, 0, -1));
         due(2, x.find(1, 0, 11, 6, 2, 0, 0));
         due(NONE, x.find(0, 0, 10, 5, 0, 0, 0));
+        AxesAtDawn y = dig();
+        due(0, y.find(1, 0, 11, 6, 2, 0, 0));
+        due(NONE, y.find(0, 0, 10, 5, 0, 0, 0));
         for (int i = 3; i < 40; i++) {
             due(i, x.find(1, 0, 11, 6, 2, 0, 0));
         }
@@ -244,6 +247,7 @@ public final class PromisesTest {
         lawTooMany();
         lawTooDeep();
         lawStays();
+        lawLongest();
         lawValues();
     }
 
@@ -280,6 +284,9 @@ public final class PromisesTest {
         due(1 + 16 * 9, fault("odd when odd;"));
         due(0, fault("enough when odd;"));
         due(1 + 16 * 12, fault("enough when soil;"));
+        due(1, fault("barz when 1;"));
+        due(1 + 16 * 9, fault("bar when rustz;"));
+        due(1 + 16 * 9, fault("bar when agea;"));
         due(1 + 16 * 5, fault("rule x stops 1;"));
         due(4 + 16 * 5, fault("rule 8 stops 1;"));
         due(4 + 16 * 5, fault("rule 9999 x"));
@@ -315,6 +322,13 @@ public final class PromisesTest {
         due(5 + 16 * 29, fault("bar when not not not not not 1;"));
         due(5 + 16 * 29, fault("bar when not not not not not not;"));
         due(5 + 16 * 16, fault("bar when (not(((rust))));"));
+        due(5 + 16 * 20, fault("bar when ((((1 and (1)))));"));
+        due(5 + 16 * 19, fault("bar when ((((1 or (1)))));"));
+        due(5 + 16 * 16, fault("bar when ((((1<(1)))));"));
+        due(5 + 16 * 16, fault("bar when ((((1=(1)))));"));
+        due(5 + 16 * 16, fault("bar when ((((1+(1)))));"));
+        due(5 + 16 * 16, fault("bar when ((((1-(1)))));"));
+        due(5 + 16 * 16, fault("bar when ((((1*(1)))));"));
         due(1 + 16 * 14, fault("bar when (((((day)))));"));
         due(1 + 16 * 14, fault("bar when (((((;"));
         due(1 + 16 * 14, fault("bar when ((((("));
@@ -335,6 +349,36 @@ public final class PromisesTest {
         due(0, x.count(5));
         due(0, law(x, ""));
         due(0, x.each(0));
+        // since and far are 3 and 100 again in a LAW without them
+        x.here(5, 0, 7, 1, 1);
+        x.here(6, 0, 6, 1, 1);
+        x.find(1, 0, 11, 7, 2, 0, 0);
+        x.way(0, 1, 101);
+        law(x, "since 0;far 500;");
+        due(1, x.can(0));
+        due(0, fact(x, 0, 16));
+        law(x, "odd when 0;");
+        due(1 | 1 << 5, x.can(0));
+        due(1, fact(x, 0, 16));
+        x.way(0, 1, 100);
+        due(0, fact(x, 0, 16));
+    }
+
+    private static void lawLongest() {
+        String bar = "bar when " + "1-".repeat(495) + "1";
+        due(1000, (bar + ";").length() - 1);
+        due(1 + 16 * 1000, fault(bar + ";"));
+        due(0, fault(bar.replaceFirst("1-", "") + ";"));
+        due(0, fault("bar when " + "0 or ".repeat(197) + "1;"));
+        due(0, fault("bar when " + "1*".repeat(494) + "1;"));
+        AxesAtDawn x = dig();
+        x.find(0, 0, 10, 8, 0, 1, 0);
+        due(0, law(x, "bar when 493=" + "1+".repeat(492) + "1;"));
+        due(2, x.each(0));
+        due(0, law(x, "odd when 0;".repeat(6) + "bar when 0;".repeat(5) + "bar when " + "not not rust*1+".repeat(50)
+                + "0=50;"));
+        due(2, x.each(0));
+        due(0, law(x, "bar when 1-(1-(1-(1-(1-1<1)*1<2)*1<2)*1<2);"));
     }
 
     /** The E is barred exactly if it is not 0. */
@@ -433,6 +477,8 @@ public final class PromisesTest {
         x.layer(0, 0, 201);
         due(1, fact(x, 0, 12));
         due(0, fact(x, 1, 12));
+        x.here(2, 1, 11, 0, 0);
+        due(7, fact(x, 8, 14));
         due(THROWS, fact(x, 9, 0));
         due(THROWS, fact(x, -1, 0));
         due(THROWS, fact(x, 0, 20));
@@ -604,7 +650,7 @@ public final class PromisesTest {
         due(0, x.can(4));
         x.here(7, 0, 10, 5, 5);
         due(0, x.can(1));
-        x.here(8, 0, 10, 3, 3);
+        x.here(8, 0, 10, 0, 0);
         due(1 << 8, x.can(1));
         due(NONE, x.can(5));
         due(NONE, x.can(-1));
@@ -703,6 +749,18 @@ public final class PromisesTest {
         due(2, y.stories(1));
         due(2 | 64, y.stories(2));
         due(2 | 64, y.stories(3));
+        y.mark(0, false);
+        for (int hand = 0; hand < 10; hand++) {
+            y.here(hand, 2, 30 + 10 * hand, 0, 5);
+            y.find(2, 4, 30 + 10 * hand, 4, hand, 1, 20 + hand);
+        }
+        due(1, y.stories(0));
+        due(10, y.stories(1));
+        due(1023, y.stories(2));
+        due(1023, y.stories(3));
+        due(1023, y.stories(4));
+        y.mark(0, true);
+        due(256, y.stories(0));
         y.find(2, 4, 20, 3, 6, 1, 9);
         due(0, y.stories(0));
         due(NONE, y.stories(1));
@@ -847,6 +905,7 @@ public final class PromisesTest {
         law(x, "bar when rust;");
         due(0, x.stories(0));
         due(1, x.doubted(0));
+        due(0, x.doubted(1));
         due(1, x.doubted(4));
         due(0, x.doubted(5));
         due(NONE, x.doubted(6));
@@ -893,6 +952,18 @@ public final class PromisesTest {
         due(NONE, x.again(-1, 0));
         due(NONE, x.again(0, 8));
         due(NONE, x.again(0, -2));
+        AxesAtDawn z = leaning();
+        law(z, "odd when rust;");
+        z.ground(0, 1 | 16, 0);
+        z.ground(0, 4, 0);
+        // without 0 and 2, or with 2, it is SETTLED, but not with 0 alone
+        due(11, z.again(0, NONE));
+        due(11, z.again(1, NONE));
+        z.ground(1, 4 | 16, 0);
+        z.ground(1, 1, 0);
+        z.ground(1, 2 | 4, 0);
+        due(11, z.again(0, NONE));
+        due(12, z.again(0, 1));
         AxesAtDawn y = dig();
         law(y, "odd when rust;");
         for (int i = 0; i < 10; i++) {
@@ -1044,8 +1115,22 @@ public final class PromisesTest {
         y.find(1, 0, 11, 7, 2, 0, 1);
         law(y, "enough when pairs = 2;");
         due(11, y.enough());
+        law(y, "enough when pairs = 1;");
+        due(NONE, y.enough());
         law(y, "enough when 2 < pairs;");
         due(NONE, y.enough());
+        y.here(2, 1, 12, 0, 3);
+        y.find(1, 0, 12, 1, 2, 0, 1);
+        law(y, "enough when pairs = 4;");
+        due(12, y.enough());
+        law(y, "enough when dawns = 4;");
+        due(12, y.enough());
+        law(y, "enough when dawns = 3 and finds = 3;");
+        due(11, y.enough());
+        law(y, "enough when most = 3;");
+        due(NONE, y.enough());
+        law(y, "enough when finds = 4 and most = 2;");
+        due(12, y.enough());
         // TWINS bar a FIND from its own DAY on, whenever the other one came
         law(y, "bar when twins;enough when barred;");
         due(10, y.enough());
@@ -1221,6 +1306,9 @@ public final class PromisesTest {
             due(found ? layer == 2 ? 11 : 22 : NONE, x.world(seed, 4));
             due(found ? layer : NONE, x.found(seed, 0, 2));
         }
+        for (int seed = 0; seed < 9; seed++) {
+            due(NONE, x.world(seed, 5));
+        }
         // without a LAYER nothing is drawn for one that would be put, nor sought
         AxesAtDawn y = new AxesAtDawn();
         y.here(4, 0, 0, 7, 9);
@@ -1273,10 +1361,77 @@ public final class PromisesTest {
         y.skill(1, 9, 9);
         law(y, "bar when first;");
         due(2, y.found(1, 0, 5));
+        due(1, y.found(1, 0, 3));
         int oldest = y.found(1, 0, 2);
         for (int k = 1; k < y.world(1, 1); k++) {
             due(y.found(1, k, 2) > oldest ? 2 : 0, y.found(1, k, 5));
             oldest = Math.max(oldest, y.found(1, k, 2));
+        }
+        promise36Facts();
+        promise36Order();
+    }
+
+    /** A FOUND one has the STONE, the LAYER and the HOUR that the LAW asks for. */
+    private static void promise36Facts() {
+        AxesAtDawn x = known();
+        x.way(0, 1, 999);
+        x.skill(1, 9, 9);
+        law(x, "bar when stone < 30;odd when layer = 3;");
+        int barred = 0;
+        for (int k = 0; k < x.world(4, 1); k++) {
+            int due = x.found(4, k, 4) < 30 ? 2 : x.found(4, k, 2) == 3 ? 1 : 0;
+            due(due, x.found(4, k, 5));
+            barred += due / 2;
+        }
+        due(true, barred > 0);
+        // all are FOUND one an HOUR, ALONE, from 0 on: dawn is the HOUR
+        AxesAtDawn y = known();
+        y.skill(2, 9, 0);
+        y.skill(3, 9, 0);
+        y.wealth(1, 2, 9);
+        law(y, "bar when others = 1 and not alone and dawn = 0 and twins = 0;");
+        due(y.world(4, 0), y.rates(5, 1) - y.rates(4, 1));
+        y.skill(1, 9, 9);
+        law(y, "bar when others = 0 and alone and dawn = hour;");
+        due(y.rates(5, 3), y.rates(5, 4));
+        due(0, y.rates(5, 1));
+        // FINDS told with the same STONE are no TWINS of what is FOUND
+        y.way(0, 1, 999);
+        law(y, "bar when twins;");
+        for (int stone = 0; stone < 40; stone++) {
+            y.find(1, 2, 4, 5, 2, 0, stone);
+        }
+        due(0, y.rates(20, 4));
+    }
+
+    /** What was put first at a SITE is FOUND first, each out of its own LAYER. */
+    private static void promise36Order() {
+        AxesAtDawn x = new AxesAtDawn();
+        for (int layer = 0; layer < 10; layer++) {
+            x.layer(7, layer, layer);
+        }
+        x.here(1, 7, 0, 0, 23);
+        x.here(2, 7, 1, 0, 23);
+        x.skill(1, 0, 5);
+        x.skill(2, 9, 0);
+        for (int seed = 0; seed < 40; seed++) {
+            long[] g = {seed};
+            int[] layers = new int[24];
+            int put = 0;
+            for (int hour = 0; hour < 24; hour++) {
+                if (draw(g) < 5 && put < 9) {
+                    layers[put++] = draw(g);
+                }
+                for (int i = put > 0 ? 2 : 0; i < 3; i++) {
+                    draw(g);
+                }
+            }
+            due(Math.min(put, x.world(seed, 1)), x.world(seed, 1));
+            due(put, x.world(seed, 1) + x.world(seed, 2));
+            for (int k = 0; k < x.world(seed, 1); k++) {
+                due(layers[k], x.found(seed, k, 2));
+                due(2, x.found(seed, k, 3));
+            }
         }
     }
 
@@ -1331,6 +1486,12 @@ public final class PromisesTest {
         }
         due(by[4] >= by[6] ? 4 : 6, thrown(() -> x.parted(3, 0)));
         due(Math.max(by[4], by[6]), thrown(() -> x.parted(3, 1)));
+        for (int m = 0; m < 8; m++) {
+            for (int i = 0; i < 8; i++) {
+                x.shows(i, 0, i == m ? 9 : 1);
+            }
+            due(m, thrown(() -> x.parted(20, 0)));
+        }
         // all MARKS on what LAY there alone: below 0, the first of the least bad
         AxesAtDawn y = known();
         y.skill(2, 9, 0);
