@@ -3,6 +3,7 @@ import java.util.HashMap;
 import java.util.List;
 import java.util.Map;
 import java.util.NoSuchElementException;
+import java.util.stream.IntStream;
 
 /**
  * What the tests of bounds share: the sentence of the document that a check is about, answers that are due, and
@@ -36,6 +37,11 @@ final class Bench {
 
     interface Ask {
         long of(AxesAtDawn x);
+    }
+
+    /** The call with that argument. */
+    interface With {
+        Ask arg(int v);
     }
 
     /** Names the promise and the sentence that the checks behind this are about. */
@@ -115,6 +121,19 @@ final class Bench {
         refused(told, 0, call);
     }
 
+    /** A call with one argument outside of its bounds is refused: next to them, far off, or like one by its low bits. */
+    static void outside(Calls told, long want, int low, int high, With call) {
+        for (int v : outside(low, high)) {
+            refused(told, want, call.arg(v));
+        }
+    }
+
+    static int[] outside(int low, int high) {
+        return IntStream.of(low - 1, high + 1, low - 2, high + 2, low - 32, low + 32, low - 64, low + 64, low + 128,
+                low + 256, low + 512, low + 1024, low + 4096, low + 65536, low + (1 << 30), MIN, MIN + low + 1, MAX)
+                .filter(v -> v < low || v > high).toArray();
+    }
+
     /** All that an object answers; each group on a new one, so that none is called more than 512 times. */
     private static long[] looks(Calls told) {
         if (LOOKS.isEmpty()) {
@@ -132,8 +151,8 @@ final class Bench {
     }
 
     private static void listLooks() {
-        for (int part = 0; part < 4; part++) {
-            LOOKS.add(whoIsThere(2 * part));
+        for (int site = 0; site < 8; site++) {
+            LOOKS.add(whoIsThere(site));
         }
         LOOKS.add(facts());
         LOOKS.add(judged());
@@ -150,11 +169,10 @@ final class Bench {
 
     private static List<Ask> whoIsThere(int site) {
         List<Ask> group = new ArrayList<>();
-        for (int i = 0; i < 2 * DAYS.length * 24; i++) {
-            int s = site + i % 2;
-            int day = DAYS[i / 2 % DAYS.length];
-            int hour = i / 2 / DAYS.length;
-            group.add(x -> x.present(s, day, hour));
+        for (int i = 0; i < DAYS.length * 24; i++) {
+            int day = DAYS[i % DAYS.length];
+            int hour = i / DAYS.length;
+            group.add(x -> x.present(site, day, hour));
         }
         return group;
     }

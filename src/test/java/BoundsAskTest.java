@@ -10,6 +10,7 @@ public final class BoundsAskTest {
     private static final int MIN = Bench.MIN;
     private static final int MAX = Bench.MAX;
     private static final Bench.Calls DIG = Bench.DIG;
+    private static final Bench.Calls NEW = x -> { };
     
     private static void due(long want, long got) {
         Bench.due(want, got);
@@ -37,13 +38,12 @@ public final class BoundsAskTest {
 
     private static void promise12Row() {
         Bench.says(12, "NONE: others");
-        for (int v : new int[] {-1, 10, MIN, MAX}) {
-            Bench.refused(DIG, NONE, y -> y.row(v, 0, 0));
-            Bench.refused(DIG, NONE, y -> y.row(3, v, 0));
-            Bench.refused(DIG, NONE, y -> y.row(3, 0, v));
+        for (int what = 0; what < 4; what++) {
+            int w = what;
+            Bench.outside(DIG, NONE, 0, 9, v -> y -> y.row(v, 0, w));
+            Bench.outside(DIG, NONE, 0, 2, v -> y -> y.row(3, v, w));
         }
-        Bench.refused(DIG, NONE, y -> y.row(3, 3, 0));
-        Bench.refused(DIG, NONE, y -> y.row(3, 0, 4));
+        Bench.outside(DIG, NONE, 0, 3, v -> y -> y.row(3, 0, v));
         Bench.says(12, "ROWS where there is no FIND");
         AxesAtDawn none = new AxesAtDawn();
         for (int i = 0; i < 120; i++) {
@@ -91,13 +91,11 @@ public final class BoundsAskTest {
 
     private static void promise13Odds() {
         Bench.says(13, "NONE: others");
-        for (int v : new int[] {-1, 10, MIN, MAX}) {
-            Bench.refused(DIG, NONE, y -> y.odds(v, 0, 0));
-            Bench.refused(DIG, NONE, y -> y.odds(3, v, 0));
-            Bench.refused(DIG, NONE, y -> y.odds(3, 0, v));
-        }
-        Bench.refused(DIG, NONE, y -> y.odds(3, 3, 0));
-        Bench.refused(DIG, NONE, y -> y.odds(3, 0, 2));
+        Bench.outside(DIG, NONE, 0, 9, v -> y -> y.odds(v, 0, 0));
+        Bench.outside(DIG, NONE, 0, 9, v -> y -> y.odds(v, 2, 1));
+        Bench.outside(DIG, NONE, 0, 2, v -> y -> y.odds(3, v, 0));
+        Bench.outside(DIG, NONE, 0, 2, v -> y -> y.odds(3, v, 1));
+        Bench.outside(DIG, NONE, 0, 1, v -> y -> y.odds(3, 0, v));
         Bench.says(13, "ODDS where there is no FIND: 0 of 0 drawn are 0 or more for certain");
         for (int i = 0; i < 60; i++) {
             due(1, new AxesAtDawn().odds(i / 6, i / 2 % 3, i % 2));
@@ -154,25 +152,16 @@ public final class BoundsAskTest {
         Bench.says(14, "k 0: for certain");
         due(1, x.luck(1, 6, 0, 3, 0));
         due(1, x.luck(1, 6, 0, 3, 1));
-        Bench.says(14, "NONE: others");
-        for (int v : new int[] {MIN, -1, 10, 11, MAX}) {
-            Bench.refused(DIG, NONE, y -> y.luck(v, 3, 1, 2, 0));
-            Bench.refused(DIG, NONE, y -> y.luck(5, v, 1, 2, 0));
-            Bench.refused(DIG, NONE, y -> y.luck(5, v, v, 2, 0));
-            Bench.refused(DIG, NONE, y -> y.luck(5, 3, v, 2, 0));
-            Bench.refused(DIG, NONE, y -> y.luck(5, 3, 1, v, 0));
-            Bench.refused(DIG, NONE, y -> y.luck(5, 3, 1, 2, v));
-        }
         Bench.says(14, "NONE: others: a 1 to 9, q 1 to 6, d 1 to 3, k 0 to q");
-        Bench.refused(DIG, NONE, y -> y.luck(0, 3, 1, 2, 0));
-        Bench.refused(DIG, NONE, y -> y.luck(5, 0, 0, 2, 0));
-        Bench.refused(DIG, NONE, y -> y.luck(5, 7, 1, 2, 0));
-        Bench.refused(DIG, NONE, y -> y.luck(5, 3, 1, 0, 0));
-        Bench.refused(DIG, NONE, y -> y.luck(5, 3, 1, 4, 0));
-        Bench.refused(DIG, NONE, y -> y.luck(5, 3, 1, 2, 2));
+        Bench.outside(DIG, NONE, 1, 9, v -> y -> y.luck(v, 3, 1, 2, 0));
+        Bench.outside(DIG, NONE, 1, 6, v -> y -> y.luck(5, v, 0, 2, 0));
+        Bench.outside(DIG, NONE, 1, 6, v -> y -> y.luck(5, v, 1, 2, 1));
+        Bench.outside(DIG, NONE, 1, 6, v -> y -> y.luck(5, v, v, 2, 0));
+        Bench.outside(DIG, NONE, 1, 3, v -> y -> y.luck(5, 3, 1, v, 0));
+        Bench.outside(DIG, NONE, 0, 1, v -> y -> y.luck(5, 3, 1, 2, v));
         for (int q = 1; q < 7; q++) {
             int many = q;
-            Bench.refused(DIG, NONE, y -> y.luck(5, many, many + 1, 2, 1));
+            Bench.outside(DIG, NONE, 0, q, v -> y -> y.luck(5, many, v, 2, 1));
         }
     }
 
@@ -234,16 +223,13 @@ public final class BoundsAskTest {
         x.find(7, 9, 999, 18, 9, 0, 0);
         due(511, x.can(1));
         Bench.says(15, "NONE: none such");
-        for (int find : new int[] {-1, 6, 40, MIN, MAX}) {
-            Bench.refused(DIG, NONE, y -> y.can(find));
-            Bench.says(17, "NONE: none such");
-            Bench.refused(DIG, NONE, y -> y.may(find));
-            Bench.says(18, "NONE: none such");
-            Bench.refused(DIG, NONE, y -> y.put(find));
-            Bench.says(24, "NONE: none such");
-            Bench.refused(DIG, NONE, y -> y.doubted(find));
-            Bench.says(15, "NONE: none such");
-        }
+        Bench.outside(DIG, NONE, 0, 5, v -> y -> y.can(v));
+        Bench.says(17, "NONE: none such");
+        Bench.outside(DIG, NONE, 0, 5, v -> y -> y.may(v));
+        Bench.says(18, "NONE: none such");
+        Bench.outside(DIG, NONE, 0, 5, v -> y -> y.put(v));
+        Bench.says(24, "NONE: none such");
+        Bench.outside(DIG, NONE, 0, 5, v -> y -> y.doubted(v));
     }
 
     private static void promise17May() {
@@ -272,6 +258,22 @@ public final class BoundsAskTest {
         due(8, x.may(0));
         due(true, x.seen(4, 0, 5));
         due(8, x.may(0));
+        Bench.says(17, "of one that was SEEN those SEEN: all of them");
+        AxesAtDawn three = new AxesAtDawn();
+        three.layer(0, 0, 0);
+        for (int hand = 0; hand < 4; hand++) {
+            three.here(hand, 0, 10 + hand, 0, 0);
+        }
+        three.find(0, 0, 13, 0, 3, 0, 0);
+        due(7, three.can(0));
+        three.seen(2, 0, 12);
+        due(4, three.may(0));
+        three.seen(0, 0, 13);
+        due(5, three.may(0));
+        three.seen(9, 0, 13);
+        due(5, three.may(0));
+        three.seen(1, 0, 11);
+        due(7, three.may(0));
         Bench.says(17, "at a SITE");
         AxesAtDawn y = sites(2);
         y.here(2, 0, 4, 0, 0);
@@ -318,10 +320,8 @@ public final class BoundsAskTest {
             due(0, x.stories(what));
         }
         Bench.says(19, "NONE: another what");
-        for (int what : new int[] {-1, 5, MIN, MAX}) {
-            Bench.refused(DIG, NONE, y -> y.stories(what));
-            due(NONE, x.stories(what));
-        }
+        Bench.outside(DIG, NONE, 0, 4, v -> y -> y.stories(v));
+        Bench.outside(NEW, NONE, 0, 4, v -> y -> y.stories(v));
         Bench.says(19, "NONE: none (but 0: 0)");
         AxesAtDawn none = sites(1);
         finds(none, 0, 1, 1);
@@ -403,12 +403,9 @@ public final class BoundsAskTest {
 
     private static void promise21Standing() {
         Bench.says(21, "NONE: no such HAND");
-        for (int hand : new int[] {-2, 10, MIN, MAX}) {
-            Bench.refused(DIG, NONE, y -> y.standing(hand));
-            Bench.says(22, "NONE: no such HAND");
-            Bench.refused(DIG, NONE, y -> y.oldest(hand));
-            Bench.says(21, "NONE: no such HAND");
-        }
+        Bench.outside(DIG, NONE, NONE, 9, v -> y -> y.standing(v));
+        Bench.says(22, "NONE: no such HAND");
+        Bench.outside(DIG, NONE, NONE, 9, v -> y -> y.oldest(v));
         Bench.says(21, "CLAIMS that STAND without a HAND (NONE: with all)");
         // GROUNDS of 0: {0}; 1: {1, 2}; 2: CLAIMS 0 and 1, or {2}; 3: {3, 4}; 11: {5} and CLAIM 3
         AxesAtDawn x = Bench.after(DIG);
@@ -440,6 +437,18 @@ public final class BoundsAskTest {
         due(0, x.standing(1));
         x.ground(0, 2, 0);
         due(1 | 1 << 2 | 1 << 3, x.standing(NONE));
+        Bench.says(21, "all of some GROUND of it do: a row of all 12, told one way or the other");
+        for (int step : new int[] {1, 11}) {
+            AxesAtDawn row = sites(2);
+            finds(row, 0, 1, 0);
+            for (int i = 0; i < 12; i++) {
+                int claim = (i * step + (step == 11 ? 11 : 0)) % 12;
+                row.ground(claim, claim == 11 ? 1 : 0, claim == 11 ? 0 : 1 << claim + 1);
+            }
+            due(12, row.count(4));
+            due(4095, row.standing(NONE));
+            due(0, row.standing(0));
+        }
         Bench.says(21, "needs itself in the end: a ring of all 12, told one way or the other");
         for (int step : new int[] {1, 11}) {
             AxesAtDawn ring = sites(2);
@@ -484,14 +493,11 @@ public final class BoundsAskTest {
 
     private static void promise23Cut() {
         Bench.says(23, "NONE: no such CLAIM");
-        for (int claim : new int[] {-1, 12, MIN, MAX}) {
-            Bench.refused(DIG, NONE, y -> y.cut(claim, 0));
-            Bench.refused(DIG, NONE, y -> y.cut(claim, 1));
-        }
+        Bench.outside(DIG, NONE, 0, 11, v -> y -> y.cut(v, 0));
+        Bench.outside(DIG, NONE, 0, 11, v -> y -> y.cut(v, 1));
         Bench.says(23, "NONE: another what");
-        for (int what : new int[] {-1, 4, MIN, MAX}) {
-            Bench.refused(DIG, NONE, y -> y.cut(0, what));
-        }
+        Bench.outside(DIG, NONE, 0, 3, v -> y -> y.cut(0, v));
+        Bench.outside(DIG, NONE, 0, 3, v -> y -> y.cut(11, v));
         Bench.says(23, "NONE: it does not STAND");
         for (int what = 0; what < 4; what++) {
             int w = what;
@@ -544,6 +550,16 @@ public final class BoundsAskTest {
         due(2, x.cut(1, 0));
         due(0, x.cut(1, 1));
         due(39, x.cut(1, 2));
+        // ones that lie side by side
+        x.ground(4, 16, 0);
+        x.ground(4, 32, 0);
+        due(4, x.cut(4, 1));
+        due(5, x.cut(4, 2));
+        x.ground(4, 64, 0);
+        int[] side = {3, 4, 5, 6};
+        for (int what = 0; what < 4; what++) {
+            due(side[what], x.cut(4, what));
+        }
         // a single one is less than any two
         x.ground(2, 1 | 1L << 39, 0);
         x.ground(2, 2 | 1L << 39, 0);
@@ -624,15 +640,12 @@ public final class BoundsAskTest {
 
     private static void promise26Again() {
         Bench.says(26, "NONE: others: SITES 0 to 7 (b NONE: one)");
-        for (int site : new int[] {-1, 8, MIN, MAX}) {
-            Bench.refused(DIG, NONE, y -> y.again(site, NONE));
-            Bench.refused(DIG, NONE, y -> y.again(site, 0));
-            Bench.refused(DIG, NONE, y -> y.again(site, site));
-            if (site != NONE) {
-                Bench.refused(DIG, NONE, y -> y.again(0, site));
-            }
-        }
-        Bench.refused(DIG, NONE, y -> y.again(0, -2));
+        Bench.outside(DIG, NONE, 0, 7, v -> y -> y.again(v, NONE));
+        Bench.outside(DIG, NONE, 0, 7, v -> y -> y.again(v, 0));
+        Bench.outside(DIG, NONE, 0, 7, v -> y -> y.again(v, v));
+        Bench.outside(DIG, NONE, 0, 7, v -> y -> y.again(v, v + 1));
+        Bench.outside(DIG, NONE, NONE, 7, v -> y -> y.again(0, v));
+        Bench.outside(DIG, NONE, NONE, 7, v -> y -> y.again(7, v));
         for (int site = 0; site < 8; site++) {
             int s = site;
             Bench.refused(DIG, NONE, y -> y.again(s, s));
@@ -680,22 +693,42 @@ public final class BoundsAskTest {
         due(10, x.again(0, 6));
         due(9, x.again(6, 7));
         due(8, x.again(1, 2));
+        promise26Outcomes();
+    }
+
+    private static void promise26Outcomes() {
+        Bench.says(26, "SETTLED whatever comes out: each of the DOUBTED FINDS there may stand by itself");
+        for (int a = 0; a < 8; a++) {
+            for (int b = 0; b < 8; b++) {
+                int c = a == 3 || b == 3 ? a == 6 || b == 6 ? 5 : 6 : 3;
+                if (a == b) {
+                    continue;
+                }
+                AxesAtDawn x = sites(8);
+                for (int site = 0; site < 8; site++) {
+                    finds(x, site, 1, 1);
+                }
+                Bench.law(x, "odd when rust;");
+                // with a and b it STANDS, without both it does not, with a alone it needs c, which stays DOUBTED
+                x.ground(0, 1L << a | 1L << b, 0);
+                x.ground(0, 1L << a | 1L << c, 0);
+                due(11, x.again(a, b));
+                due(11, x.again(b, a));
+                x.ground(0, 1L << a, 0);
+                due(12, x.again(a, b));
+            }
+        }
     }
 
     private static void promise27Where() {
         Bench.says(27, "NONE: others (many 1 or 2)");
-        for (int v : new int[] {-1, 0, 3, MIN, MAX}) {
-            for (int what = 0; what < 3; what++) {
-                int w = what;
-                Bench.refused(DIG, NONE, y -> y.where(v, w));
-            }
+        for (int what = 0; what < 3; what++) {
+            int w = what;
+            Bench.outside(DIG, NONE, 1, 2, v -> y -> y.where(v, w));
         }
         Bench.says(27, "NONE: others (what 0, 1, 2: the SITES)");
-        for (int v : new int[] {-1, 3, 4, MIN, MAX}) {
-            Bench.refused(DIG, NONE, y -> y.where(1, v));
-            Bench.refused(DIG, NONE, y -> y.where(2, v));
-        }
-        Bench.refused(DIG, NONE, y -> y.where(1, 2));
+        Bench.outside(DIG, NONE, 0, 1, v -> y -> y.where(1, v));
+        Bench.outside(DIG, NONE, 0, 2, v -> y -> y.where(2, v));
         Bench.says(27, "of equal ones the first (the pair in order by its first, then its second)");
         AxesAtDawn none = new AxesAtDawn();
         int[] want = {12, 0, 12, 0, 1};
@@ -751,10 +784,8 @@ public final class BoundsAskTest {
 
     private static void promise28Rules() {
         Bench.says(28, "NONE: another what");
-        for (int what : new int[] {-1, 2, MIN, MAX}) {
-            Bench.refused(DIG, NONE, y -> y.rules(what));
-            due(NONE, new AxesAtDawn().rules(what));
-        }
+        Bench.outside(DIG, NONE, 0, 1, v -> y -> y.rules(v));
+        Bench.outside(NEW, NONE, 0, 1, v -> y -> y.rules(v));
         Bench.says(28, "where nothing is DOUBTED: no RULE is needed");
         due(0, new AxesAtDawn().rules(0));
         due(0, new AxesAtDawn().rules(1));

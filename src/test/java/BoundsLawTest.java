@@ -167,6 +167,10 @@ public final class BoundsLawTest {
         faultAt(1, "|barbarbar when 1;");
         faultAt(1, "bar when 1 |andandand 1;");
         faultAt(1, "bar |whenwhenwhen 1;");
+        faultAt(1, "bar when |rustz;");
+        faultAt(1, "bar when |rusta;");
+        faultAt(1, "bar when |arust;");
+        faultAt(1, "|barz when 1;");
         faultAt(1, "bar when rust|A;");
         faultAt(1, "bar when rust|`;");
         faultAt(1, "bar when rust|{;");
@@ -501,9 +505,7 @@ public final class BoundsLawTest {
         due(0, x.each(1));
         due(1, x.each(2));
         Bench.says(10, "NONE: none such");
-        for (int find : new int[] {-1, 6, 40, MIN, MAX}) {
-            Bench.refused(DIG, NONE, y -> y.each(find));
-        }
+        Bench.outside(DIG, NONE, 0, 5, v -> y -> y.each(v));
         x.mark(1, true);
         due(1, x.each(2));
         due(NONE, x.each(3));
@@ -527,12 +529,12 @@ public final class BoundsLawTest {
             Bench.says(11, "1 or 0: what is not 0 is so");
         }
         Bench.says(11, "NONE: no such FIND, a RULE that is not told");
-        for (int v : new int[] {-1, 8, MIN, MAX}) {
-            Bench.refused(DIG, NONE, y -> y.stops(v, 0));
-            Bench.refused(DIG, NONE, y -> y.stops(2, v));
-        }
-        Bench.refused(DIG, NONE, y -> y.stops(2, 6));
+        Bench.outside(DIG, NONE, 0, 7, v -> y -> y.stops(v, 0));
+        Bench.outside(DIG, NONE, 2, 2, v -> y -> y.stops(v, 0));
+        Bench.outside(DIG, NONE, 0, 5, v -> y -> y.stops(2, v));
+        Bench.outside(DIG, NONE, 0, 5, v -> y -> y.stops(v, v));
         Bench.refused(DIG, NONE, y -> y.stops(0, 0));
+        Bench.refused(DIG, NONE, y -> y.stops(7, 5));
         Bench.refused(DIG, NONE, y -> y.stops(0, 6));
     }
 

@@ -121,19 +121,13 @@ public final class BoundsTellTest {
         due(true, x.layer(6, 9, 5));
         due(9998, fact(x, 0, 8));
         Bench.says(2, "false: others: SITES 0 to 7");
-        for (int site : new int[] {-1, 8, MIN, MAX}) {
-            Bench.refused(DIG, y -> Bench.bit(y.layer(site, 0, 7)));
-        }
+        Bench.outside(DIG, 0, 0, 7, v -> y -> Bench.bit(y.layer(v, 0, 7)));
         Bench.says(2, "false: others: LAYERS 0 to 9");
-        for (int layer : new int[] {-1, 10, 11, MIN, MAX}) {
-            Bench.refused(DIG, y -> Bench.bit(y.layer(0, layer, 7)));
-            Bench.refused(DIG, y -> Bench.bit(y.layer(1, layer, 7)));
-        }
+        Bench.outside(DIG, 0, 0, 9, v -> y -> Bench.bit(y.layer(0, v, 7)));
+        Bench.outside(DIG, 0, 0, 9, v -> y -> Bench.bit(y.layer(1, v, 7)));
         Bench.says(2, "false: others: AGE 0 to 9999");
-        for (int age : new int[] {-1, 10000, MIN, MAX}) {
-            Bench.refused(DIG, y -> Bench.bit(y.layer(0, 0, age)));
-            Bench.refused(DIG, y -> Bench.bit(y.layer(5, 5, age)));
-        }
+        Bench.outside(DIG, 0, 0, 9999, v -> y -> Bench.bit(y.layer(0, 0, v)));
+        Bench.outside(DIG, 0, 0, 9999, v -> y -> Bench.bit(y.layer(5, 5, v)));
     }
 
     /** One FIND of STONE 5 at each SITE. */
@@ -182,16 +176,13 @@ public final class BoundsTellTest {
             Bench.refused(DIG, y -> Bench.bit(y.way(s, s, 0)));
         }
         Bench.says(3, "false: others");
-        for (int site : new int[] {-1, 8, 9, MIN, MAX}) {
-            Bench.refused(DIG, y -> Bench.bit(y.way(site, 0, 700)));
-            Bench.refused(DIG, y -> Bench.bit(y.way(1, site, 700)));
-            Bench.refused(DIG, y -> Bench.bit(y.way(site, site, 700)));
-        }
-        for (int length : new int[] {-1, 1000, MIN, MAX}) {
-            Bench.refused(DIG, y -> Bench.bit(y.way(0, 1, length)));
-            Bench.refused(DIG, y -> Bench.bit(y.way(2, 1, length)));
-            Bench.refused(DIG, y -> Bench.bit(y.way(5, 4, length)));
-        }
+        Bench.outside(DIG, 0, 0, 7, v -> y -> Bench.bit(y.way(v, 0, 700)));
+        Bench.outside(DIG, 0, 0, 7, v -> y -> Bench.bit(y.way(1, v, 700)));
+        Bench.outside(DIG, 0, 0, 7, v -> y -> Bench.bit(y.way(v, v, 700)));
+        Bench.outside(DIG, 0, 0, 7, v -> y -> Bench.bit(y.way(v, v + 1, 700)));
+        Bench.outside(DIG, 0, 0, 999, v -> y -> Bench.bit(y.way(0, 1, v)));
+        Bench.outside(DIG, 0, 0, 999, v -> y -> Bench.bit(y.way(2, 1, v)));
+        Bench.outside(DIG, 0, 0, 999, v -> y -> Bench.bit(y.way(5, 4, v)));
     }
 
     private static void promise4Here() {
@@ -228,23 +219,15 @@ public final class BoundsTellTest {
 
     private static void promise4Others() {
         Bench.says(4, "false: others: HANDS 0 to 9");
-        for (int hand : new int[] {-1, 10, 32, MIN, MAX}) {
-            Bench.refused(DIG, y -> Bench.bit(y.here(hand, 3, 4, 5, 6)));
-        }
+        Bench.outside(DIG, 0, 0, 9, v -> y -> Bench.bit(y.here(v, 3, 4, 5, 6)));
         Bench.says(4, "false: others: SITES 0 to 7");
-        for (int site : new int[] {-1, 8, MIN, MAX}) {
-            Bench.refused(DIG, y -> Bench.bit(y.here(2, site, 4, 5, 6)));
-        }
+        Bench.outside(DIG, 0, 0, 7, v -> y -> Bench.bit(y.here(2, v, 4, 5, 6)));
         Bench.says(4, "false: others: DAYS 0 to 999");
-        for (int day : new int[] {-1, 1000, MIN, MAX}) {
-            Bench.refused(DIG, y -> Bench.bit(y.here(2, 3, day, 5, 6)));
-        }
+        Bench.outside(DIG, 0, 0, 999, v -> y -> Bench.bit(y.here(2, 3, v, 5, 6)));
         Bench.says(4, "false: others: HOURS 0 to 23");
-        for (int hour : new int[] {-1, 24, 31, 32, MIN, MAX}) {
-            Bench.refused(DIG, y -> Bench.bit(y.here(2, 3, 4, hour, 23)));
-            Bench.refused(DIG, y -> Bench.bit(y.here(2, 3, 4, 0, hour)));
-            Bench.refused(DIG, y -> Bench.bit(y.here(2, 3, 4, hour, hour)));
-        }
+        Bench.outside(DIG, 0, 0, 23, v -> y -> Bench.bit(y.here(2, 3, 4, v, 23)));
+        Bench.outside(DIG, 0, 0, 23, v -> y -> Bench.bit(y.here(2, 3, 4, 0, v)));
+        Bench.outside(DIG, 0, 0, 23, v -> y -> Bench.bit(y.here(2, 3, 4, v, v)));
         Bench.says(4, "false: from above to");
         for (int from = 1; from < 24; from++) {
             int f = from;
@@ -284,6 +267,20 @@ public final class BoundsTellTest {
         due(true, x.here(2, 3, 4, 10, 12));
         due(false, x.here(2, 4, 4, 9, 9));
         due(16, x.count(1));
+        Bench.says(4, "at two SITES at once: by the first line and by the last");
+        AxesAtDawn y = new AxesAtDawn();
+        due(true, y.here(0, 0, 0, 0, 0));
+        due(false, y.here(0, 1, 0, 0, 0));
+        due(true, y.here(0, 1, 0, 1, 1));
+        due(false, y.here(0, 0, 0, 1, 1));
+        due(2, y.count(1));
+        Bench.says(4, "at two SITES at once: not by a line that is gone");
+        y.mark(0, false);
+        due(true, y.here(0, 2, 0, 2, 2));
+        due(false, y.here(0, 3, 0, 2, 2));
+        y.mark(0, true);
+        due(true, y.here(0, 3, 0, 2, 2));
+        due(false, y.here(0, 2, 0, 2, 2));
     }
 
     private static void eightyLines(AxesAtDawn x) {
@@ -346,26 +343,18 @@ public final class BoundsTellTest {
     }
 
     private static void promise5Others() {
-        Bench.says(5, "NONE: others");
-        for (int v : new int[] {-1, MIN, MAX, 1000, 10000}) {
-            Bench.refused(DIG, NONE, y -> y.find(v, 4, 7, 5, 6, 1, 1));
-            Bench.refused(DIG, NONE, y -> y.find(2, v, 7, 5, 6, 1, 1));
-            Bench.refused(DIG, NONE, y -> y.find(2, 4, v, 5, 6, 1, 1));
-            Bench.refused(DIG, NONE, y -> y.find(2, 4, 7, v, 6, 1, 1));
-            Bench.refused(DIG, NONE, y -> y.find(2, 4, 7, 5, v, 1, 1));
-            Bench.refused(DIG, NONE, y -> y.find(2, 4, 7, 5, 6, v, 1));
-            Bench.refused(DIG, NONE, y -> y.find(2, 4, 7, 5, 6, 1, v));
-        }
-        Bench.says(5, "NONE: others: SITES 0 to 7, LAYERS 0 to 9, HOURS 0 to 23, HANDS 0 to 9");
-        Bench.refused(DIG, NONE, y -> y.find(8, 4, 7, 5, 6, 1, 1));
-        Bench.refused(DIG, NONE, y -> y.find(2, 10, 7, 5, 6, 1, 1));
-        Bench.refused(DIG, NONE, y -> y.find(2, 4, 7, 24, 6, 1, 1));
-        Bench.refused(DIG, NONE, y -> y.find(2, 4, 7, 5, 10, 1, 1));
+        Bench.says(5, "NONE: others: SITES 0 to 7, LAYERS 0 to 9, DAYS 0 to 999, HOURS 0 to 23, HANDS 0 to 9");
+        Bench.outside(DIG, NONE, 0, 7, v -> y -> y.find(v, 4, 7, 5, 6, 1, 1));
+        Bench.outside(DIG, NONE, 0, 9, v -> y -> y.find(2, v, 7, 5, 6, 1, 1));
+        Bench.outside(DIG, NONE, 4, 4, v -> y -> y.find(2, v, 7, 5, 6, 1, 1));
+        Bench.outside(DIG, NONE, 0, 999, v -> y -> y.find(2, 4, v, 5, 6, 1, 1));
+        Bench.outside(DIG, NONE, 0, 23, v -> y -> y.find(2, 4, 7, v, 6, 1, 1));
+        Bench.outside(DIG, NONE, 0, 9, v -> y -> y.find(2, 4, 7, 5, v, 1, 1));
+        Bench.outside(DIG, NONE, 6, 6, v -> y -> y.find(2, 4, 7, 5, v, 1, 1));
         Bench.says(5, "NONE: others: MARKS as bits (1 rust .. 128 clean)");
-        Bench.refused(DIG, NONE, y -> y.find(2, 4, 7, 5, 6, 256, 1));
-        Bench.refused(DIG, NONE, y -> y.find(2, 4, 7, 5, 6, 257, 1));
+        Bench.outside(DIG, NONE, 0, 255, v -> y -> y.find(2, 4, 7, 5, 6, v, 1));
         Bench.says(5, "NONE: others: of a STONE (0 to 99)");
-        Bench.refused(DIG, NONE, y -> y.find(2, 4, 7, 5, 6, 1, 100));
+        Bench.outside(DIG, NONE, 0, 99, v -> y -> y.find(2, 4, 7, 5, 6, 1, v));
         Bench.says(5, "the call that the others are refused in place of");
         due(6, Bench.after(DIG).find(2, 4, 7, 5, 6, 255, 99));
     }
@@ -420,11 +409,18 @@ public final class BoundsTellTest {
         due(7, y.find(2, 4, 8, 0, 6, 1, 1));
         y.mark(0, true);
         due(7, y.find(2, 4, 7, 0, 6, 1, 1));
-        Bench.says(5, "no DAY ahead: the first FIND has none before it");
+        Bench.says(5, "no DAY ahead: the first FIND has none before it, the second has");
         AxesAtDawn z = new AxesAtDawn();
         z.layer(0, 0, 0);
         z.here(0, 0, 0, 0, 0);
+        z.here(0, 0, 1, 0, 0);
+        z.mark(0, false);
         due(0, z.find(0, 0, 0, 0, 0, 0, 0));
+        due(1, z.find(0, 0, 1, 0, 0, 0, 0));
+        due(NONE, z.find(0, 0, 0, 0, 0, 0, 0));
+        z.mark(0, true);
+        due(0, z.find(0, 0, 1, 0, 0, 0, 0));
+        due(NONE, z.find(0, 0, 0, 0, 0, 0, 0));
     }
 
     private static void fortyFinds(AxesAtDawn x) {
@@ -471,25 +467,21 @@ public final class BoundsTellTest {
         due(0, x.present(6, 999, 23));
         due(0, x.present(0, 0, 0));
         Bench.says(8, "NONE: others");
-        for (int v : new int[] {-1, MIN, MAX, 1000}) {
-            Bench.refused(DIG, NONE, y -> y.present(v, 5, 9));
-            Bench.refused(DIG, NONE, y -> y.present(0, v, 9));
-            Bench.refused(DIG, NONE, y -> y.present(0, 5, v));
-        }
-        Bench.refused(DIG, NONE, y -> y.present(8, 5, 9));
-        Bench.refused(DIG, NONE, y -> y.present(0, 5, 24));
+        Bench.outside(DIG, NONE, 0, 7, v -> y -> y.present(v, 5, 9));
+        Bench.outside(DIG, NONE, 0, 999, v -> y -> y.present(0, v, 9));
+        Bench.outside(DIG, NONE, 0, 23, v -> y -> y.present(0, 5, v));
     }
 
     private static void promise9Fact() {
         Bench.says(9, "NoSuchElementException: none such");
-        for (int find : new int[] {-1, 6, 40, MIN, MAX}) {
-            Bench.refused(DIG, THROWS, y -> y.fact(find, 0));
-            Bench.refused(DIG, THROWS, y -> y.fact(find, 19));
+        for (int what = 0; what < 20; what++) {
+            int w = what;
+            Bench.outside(DIG, THROWS, 0, 5, v -> y -> y.fact(v, w));
         }
-        for (int what : new int[] {-1, 20, MIN, MAX}) {
-            Bench.refused(DIG, THROWS, y -> y.fact(0, what));
-            Bench.refused(DIG, THROWS, y -> y.fact(5, what));
-        }
+        Bench.refused(DIG, THROWS, y -> y.fact(39, 19));
+        Bench.refused(DIG, THROWS, y -> y.fact(40, 19));
+        Bench.outside(DIG, THROWS, 0, 19, v -> y -> y.fact(0, v));
+        Bench.outside(DIG, THROWS, 0, 19, v -> y -> y.fact(5, v));
         Bench.refused(NEW, THROWS, y -> y.fact(0, 0));
         Bench.says(9, "what 0 to 7: 1 if it has that MARK, 17: SITE, 18: DAY, 19: HAND");
         AxesAtDawn x = Bench.after(DIG);
@@ -553,6 +545,7 @@ public final class BoundsTellTest {
             due(others, fact(x, 0, 15));
         }
         due(8, others);
+        promise9AloneAgain();
         AxesAtDawn y = new AxesAtDawn();
         y.layer(0, 0, 0);
         for (int hand = 0; hand < 10; hand++) {
@@ -560,6 +553,29 @@ public final class BoundsTellTest {
         }
         y.find(0, 0, 5, 7, 0, 0, 0);
         due(9, fact(y, 0, 15));
+    }
+
+    private static void promise9AloneAgain() {
+        Bench.says(9, "ALONE .. if .. no other one is: again so when the other one's line is gone");
+        AxesAtDawn x = new AxesAtDawn();
+        x.layer(0, 0, 0);
+        x.here(9, 0, 5, 6, 7);
+        x.find(0, 0, 5, 7, 9, 0, 0);
+        for (int turn = 0; turn < 2; turn++) {
+            x.mark(0, false);
+            due(1, fact(x, 0, 13));
+            due(1, fact(x, 0, 14));
+            due(0, fact(x, 0, 15));
+            due(512, x.can(0));
+            x.here(8, 0, 5, 0, 23);
+            due(0, fact(x, 0, 13));
+            due(0, fact(x, 0, 14));
+            due(1, fact(x, 0, 15));
+            due(256, x.can(0));
+            x.mark(0, true);
+        }
+        due(1, fact(x, 0, 13));
+        due(512, x.can(0));
     }
 
     private static void promise9Dawn() {
@@ -639,13 +655,9 @@ public final class BoundsTellTest {
         due(1, z.count(2));
         due(true, z.seen(3, 0, 5));
         Bench.says(16, "false: others");
-        for (int v : new int[] {-1, MIN, MAX, 1000}) {
-            Bench.refused(DIG, y -> Bench.bit(y.seen(v, 0, 5)));
-            Bench.refused(DIG, y -> Bench.bit(y.seen(3, v, 5)));
-            Bench.refused(DIG, y -> Bench.bit(y.seen(3, 0, v)));
-        }
-        Bench.refused(DIG, y -> Bench.bit(y.seen(10, 0, 5)));
-        Bench.refused(DIG, y -> Bench.bit(y.seen(3, 8, 5)));
+        Bench.outside(DIG, 0, 0, 9, v -> y -> Bench.bit(y.seen(v, 0, 5)));
+        Bench.outside(DIG, 0, 0, 7, v -> y -> Bench.bit(y.seen(3, v, 5)));
+        Bench.outside(DIG, 0, 0, 999, v -> y -> Bench.bit(y.seen(3, 0, v)));
     }
 
     private static void manyGrounds(AxesAtDawn x) {
@@ -685,10 +697,8 @@ public final class BoundsTellTest {
         due(true, two.ground(2, 1, 0));
         due(false, two.ground(2, 1, 0));
         Bench.says(20, "false: no such CLAIM");
-        for (int claim : new int[] {-1, 12, 13, MIN, MAX}) {
-            Bench.refused(DIG, y -> Bench.bit(y.ground(claim, 1, 0)));
-            Bench.refused(DIG, y -> Bench.bit(y.ground(claim, 0, 1)));
-        }
+        Bench.outside(DIG, 0, 0, 11, v -> y -> Bench.bit(y.ground(v, 1, 0)));
+        Bench.outside(DIG, 0, 0, 11, v -> y -> Bench.bit(y.ground(v, 0, 1)));
         promise20Sets();
     }
 
@@ -715,10 +725,8 @@ public final class BoundsTellTest {
         Bench.says(20, "false: FINDS or CLAIMS that are not (of CLAIMS 0 to 11)");
         due(true, Bench.after(DIG).ground(9, 0, 2048));
         due(true, Bench.after(DIG).ground(9, 0, 4095));
-        for (int claims : new int[] {4096, 4097, -1, MIN, MAX, 1 << 30}) {
-            Bench.refused(DIG, y -> Bench.bit(y.ground(9, 0, claims)));
-            Bench.refused(DIG, y -> Bench.bit(y.ground(9, 1, claims)));
-        }
+        Bench.outside(DIG, 0, 0, 4095, v -> y -> Bench.bit(y.ground(9, 0, v)));
+        Bench.outside(DIG, 0, 0, 4095, v -> y -> Bench.bit(y.ground(9, 1, v)));
         Bench.says(20, "at least one of them all");
         Bench.refused(DIG, y -> Bench.bit(y.ground(9, 0, 0)));
         due(true, Bench.after(DIG).ground(9, 1, 0));
@@ -754,17 +762,13 @@ public final class BoundsTellTest {
         due(2, back.count(3));
         due(true, back.paper(0));
         Bench.says(29, "false: others: DAYS 0 to 999");
-        for (int day : new int[] {-1, 1000, MIN, MAX}) {
-            Bench.refused(DIG, y -> Bench.bit(y.paper(day)));
-        }
+        Bench.outside(DIG, 0, 0, 999, v -> y -> Bench.bit(y.paper(v)));
     }
 
     private static void promise31Mark() {
         Bench.says(31, "MARKS 0 to 3: true; false: none such");
-        for (int mark : new int[] {-1, 4, 5, MIN, MAX}) {
-            Bench.refused(DIG, y -> Bench.bit(y.mark(mark, false)));
-            Bench.refused(DIG, y -> Bench.bit(y.mark(mark, true)));
-        }
+        Bench.outside(DIG, 0, 0, 3, v -> y -> Bench.bit(y.mark(v, false)));
+        Bench.outside(DIG, 0, 0, 3, v -> y -> Bench.bit(y.mark(v, true)));
         for (int mark = 0; mark < 4; mark++) {
             AxesAtDawn x = new AxesAtDawn();
             due(true, x.mark(mark, false));
@@ -878,10 +882,8 @@ public final class BoundsTellTest {
 
     private static void promise39Count() {
         Bench.says(39, "NONE for another what");
-        for (int what : new int[] {-1, 8, MIN, MAX}) {
-            Bench.refused(DIG, NONE, y -> y.count(what));
-            Bench.refused(NEW, NONE, y -> y.count(what));
-        }
+        Bench.outside(DIG, NONE, 0, 7, v -> y -> y.count(v));
+        Bench.outside(NEW, NONE, 0, 7, v -> y -> y.count(v));
         Bench.says(39, "FINDS, lines of HERE, SEEN, PAPERS, GROUNDS, RULES told, signs on the TAPE, LAYERS told");
         AxesAtDawn x = Bench.after(DIG);
         int[] want = {6, 9, 2, 3, 5, 2, 35, 5};

@@ -149,13 +149,11 @@ public final class BoundsWorldTest {
             due(true, x.skill(i % 10, i / 10, 9 - i / 10));
         }
         Bench.says(32, "false: others");
-        for (int v : new int[] {-1, 10, MIN, MAX}) {
-            Bench.refused(DIG, y -> Bench.bit(y.skill(v, 5, 5)));
-            for (int hand = 1; hand < 9; hand++) {
-                int h = hand;
-                Bench.refused(DIG, y -> Bench.bit(y.skill(h, v, 0)));
-                Bench.refused(DIG, y -> Bench.bit(y.skill(h, 0, v)));
-            }
+        Bench.outside(DIG, 0, 0, 9, v -> y -> Bench.bit(y.skill(v, 5, 5)));
+        for (int hand = 1; hand < 9; hand++) {
+            int h = hand;
+            Bench.outside(DIG, 0, 0, 9, v -> y -> Bench.bit(y.skill(h, v, 0)));
+            Bench.outside(DIG, 0, 0, 9, v -> y -> Bench.bit(y.skill(h, 0, v)));
         }
         Bench.says(32, "each 0 to 9 of ten: below its HABIT");
         for (int habit = 0; habit < 10; habit++) {
@@ -209,14 +207,11 @@ public final class BoundsWorldTest {
             due(true, x.wealth(i / 10, i % 10, i % 10));
         }
         Bench.says(33, "false: others");
-        for (int v : new int[] {-1, 10, MIN, MAX}) {
-            Bench.refused(DIG, y -> Bench.bit(y.wealth(v, 0, 5)));
-            Bench.refused(DIG, y -> Bench.bit(y.wealth(0, v, 5)));
-            Bench.refused(DIG, y -> Bench.bit(y.wealth(1, v, 5)));
-            Bench.refused(DIG, y -> Bench.bit(y.wealth(0, 0, v)));
-            Bench.refused(DIG, y -> Bench.bit(y.wealth(2, 4, v)));
-        }
-        Bench.refused(DIG, y -> Bench.bit(y.wealth(8, 0, 5)));
+        Bench.outside(DIG, 0, 0, 7, v -> y -> Bench.bit(y.wealth(v, 0, 5)));
+        Bench.outside(DIG, 0, 0, 9, v -> y -> Bench.bit(y.wealth(0, v, 5)));
+        Bench.outside(DIG, 0, 0, 9, v -> y -> Bench.bit(y.wealth(1, v, 5)));
+        Bench.outside(DIG, 0, 0, 9, v -> y -> Bench.bit(y.wealth(0, 0, v)));
+        Bench.outside(DIG, 0, 0, 9, v -> y -> Bench.bit(y.wealth(2, 4, v)));
         Bench.says(33, "false: others: a LAYER that is not told");
         Bench.refused(DIG, y -> Bench.bit(y.wealth(0, 2, 5)));
         Bench.refused(DIG, y -> Bench.bit(y.wealth(3, 0, 5)));
@@ -245,15 +240,12 @@ public final class BoundsWorldTest {
         for (int i = 0; i < 80; i++) {
             due(true, x.shows(i / 10, i % 10, 9 - i % 10));
         }
-        for (int v : new int[] {-1, 10, MIN, MAX}) {
-            Bench.refused(DIG, y -> Bench.bit(y.shows(v, 5, 5)));
-            for (int mark = 0; mark < 8; mark++) {
-                int m = mark;
-                Bench.refused(DIG, y -> Bench.bit(y.shows(m, v, 5)));
-                Bench.refused(DIG, y -> Bench.bit(y.shows(m, 5, v)));
-            }
+        Bench.outside(DIG, 0, 0, 7, v -> y -> Bench.bit(y.shows(v, 5, 5)));
+        for (int mark = 0; mark < 8; mark++) {
+            int m = mark;
+            Bench.outside(DIG, 0, 0, 9, v -> y -> Bench.bit(y.shows(m, v, 5)));
+            Bench.outside(DIG, 0, 0, 9, v -> y -> Bench.bit(y.shows(m, 5, v)));
         }
-        Bench.refused(DIG, y -> Bench.bit(y.shows(8, 5, 5)));
         Bench.says(34, "0 at first: no MARK shows");
         AxesAtDawn none = new AxesAtDawn();
         none.layer(0, 0, 0);
@@ -281,14 +273,11 @@ public final class BoundsWorldTest {
 
     private static void promise35Seeds() {
         Bench.says(35, "NONE: others: SEED (0 to 9999), what 0 to 4");
-        for (int v : new int[] {-1, 10000, MIN, MAX}) {
-            for (int what = 0; what < 5; what++) {
-                int w = what;
-                Bench.refused(DIG, NONE, y -> y.world(v, w));
-            }
-            Bench.refused(DIG, NONE, y -> y.world(77, v));
+        for (int what = 0; what < 5; what++) {
+            int w = what;
+            Bench.outside(DIG, NONE, 0, 9999, v -> y -> y.world(v, w));
         }
-        Bench.refused(DIG, NONE, y -> y.world(77, 5));
+        Bench.outside(DIG, NONE, 0, 4, v -> y -> y.world(77, v));
         Bench.says(35, "NONE: nothing FOUND (3, 4)");
         int[] want = {0, 0, 0, NONE, NONE, NONE};
         for (int what = 0; what < 6; what++) {
@@ -466,21 +455,18 @@ public final class BoundsWorldTest {
 
     private static void promise36Found() {
         Bench.says(36, "NONE: others (SEED 0 to 9999, what 0 to 5)");
-        for (int v : new int[] {-1, 10000, MIN, MAX}) {
-            for (int what = 0; what < 6; what++) {
-                int w = what;
-                Bench.refused(DIG, NONE, y -> y.found(v, 0, w));
-                Bench.says(36, "NONE: none such (the k-th FOUND, from 0 on)");
-                Bench.refused(DIG, NONE, y -> y.found(77, v, w));
-                Bench.says(36, "NONE: others (SEED 0 to 9999, what 0 to 5)");
-            }
-            Bench.refused(DIG, NONE, y -> y.found(77, 0, v));
-        }
-        Bench.refused(DIG, NONE, y -> y.found(77, 0, 6));
-        Bench.says(36, "NONE: none such");
         AxesAtDawn x = Bench.after(DIG);
         int many = x.world(77, 0) + x.world(77, 1);
         due(true, many > 5);
+        for (int what = 0; what < 6; what++) {
+            int w = what;
+            Bench.outside(DIG, NONE, 0, 9999, v -> y -> y.found(v, 0, w));
+            Bench.says(36, "NONE: none such (the k-th FOUND, from 0 on)");
+            Bench.outside(DIG, NONE, 0, many - 1, v -> y -> y.found(77, v, w));
+            Bench.says(36, "NONE: others (SEED 0 to 9999, what 0 to 5)");
+        }
+        Bench.outside(DIG, NONE, 0, 5, v -> y -> y.found(77, 0, v));
+        Bench.says(36, "NONE: none such");
         due(true, x.found(77, 0, 0) >= 0);
         due(true, x.found(77, many - 1, 0) >= 0);
         due(NONE, x.found(77, many, 0));
@@ -553,16 +539,12 @@ public final class BoundsWorldTest {
 
     private static void promise37Rates() {
         Bench.says(37, "NONE: others (n 1 to 20, what 0 to 5)");
-        for (int v : new int[] {-1, 0, 21, MIN, MAX}) {
-            for (int what = 0; what < 6; what++) {
-                int w = what;
-                Bench.refused(DIG, NONE, y -> y.rates(v, w));
-            }
+        for (int what = 0; what < 6; what++) {
+            int w = what;
+            Bench.outside(DIG, NONE, 1, 20, v -> y -> y.rates(v, w));
         }
-        for (int v : new int[] {-1, 6, 7, MIN, MAX}) {
-            Bench.refused(DIG, NONE, y -> y.rates(1, v));
-            Bench.refused(DIG, NONE, y -> y.rates(20, v));
-        }
+        Bench.outside(DIG, NONE, 0, 5, v -> y -> y.rates(1, v));
+        Bench.outside(DIG, NONE, 0, 5, v -> y -> y.rates(20, v));
         Bench.says(37, "nothing FOUND");
         for (int i = 0; i < 12; i++) {
             due(0, new AxesAtDawn().rates(i < 6 ? 1 : 20, i % 6));
@@ -597,14 +579,10 @@ public final class BoundsWorldTest {
 
     private static void promise38Parted() {
         Bench.says(38, "NoSuchElementException: others (n 1 to 20, what 0, 1)");
-        for (int v : new int[] {-1, 0, 21, MIN, MAX}) {
-            Bench.refused(DIG, THROWS, y -> y.parted(v, 0));
-            Bench.refused(DIG, THROWS, y -> y.parted(v, 1));
-        }
-        for (int v : new int[] {-1, 2, MIN, MAX}) {
-            Bench.refused(DIG, THROWS, y -> y.parted(1, v));
-            Bench.refused(DIG, THROWS, y -> y.parted(20, v));
-        }
+        Bench.outside(DIG, THROWS, 1, 20, v -> y -> y.parted(v, 0));
+        Bench.outside(DIG, THROWS, 1, 20, v -> y -> y.parted(v, 1));
+        Bench.outside(DIG, THROWS, 0, 1, v -> y -> y.parted(1, v));
+        Bench.outside(DIG, THROWS, 0, 1, v -> y -> y.parted(20, v));
         Bench.says(38, "nothing FOUND: the first MARK, by 0");
         for (int n = 1; n < 21; n++) {
             due(0, new AxesAtDawn().parted(n, 0));
