@@ -95,7 +95,7 @@ public final class AskedTest {
     }
 
     private static void asked() {
-        for (String enough : new String[] {"2<papers+barred", "5<finds", "odd+pairs+most+dawns=7", "0"}) {
+        for (String enough : new String[] {"2<papers", "2<papers+barred", "5<finds", "odd+pairs+most+dawns=7", "0"}) {
             Bench.Calls told = x -> dig(x, enough);
             Bench.Calls asked = x -> {
                 dig(x, enough);

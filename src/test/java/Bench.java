@@ -121,7 +121,7 @@ final class Bench {
         refused(told, 0, call);
     }
 
-    /** A call with one argument outside of its bounds is refused: next to them, far off, or like one by its low bits. */
+    /** A call with an argument outside of its bounds is refused: next to them, far off, or like one by its low bits. */
     static void outside(Calls told, long want, int low, int high, With call) {
         for (int v : outside(low, high)) {
             refused(told, want, call.arg(v));

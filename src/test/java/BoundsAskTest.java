@@ -780,6 +780,20 @@ public final class BoundsAskTest {
             due(many > 10 ? 2 : 0, x.where(2, 1));
             due(many > 9 ? 3 : 2, x.where(2, 2));
         }
+        Bench.says(27, "those are passed over: where all pairs with one SITE have more than 10");
+        for (int full = 0; full < 8; full++) {
+            AxesAtDawn x = sites(8);
+            for (int site = 0; site < 8; site++) {
+                finds(x, site, site == full ? 10 : 1, 1);
+            }
+            Bench.law(x, "odd when rust;");
+            x.ground(0, 1L << full, 0);
+            due(12, x.where(1, 0));
+            due(full, x.where(1, 1));
+            due(11, x.where(2, 0));
+            due(full == 0 ? 1 : 0, x.where(2, 1));
+            due(full == 0 || full == 1 ? 2 : 1, x.where(2, 2));
+        }
     }
 
     private static void promise28Rules() {

@@ -393,6 +393,7 @@ public final class BoundsLawTest {
             };
             Bench.same(told, x -> x.law(), without);
         }
+        promise7Without();
         Bench.says(7, "Without a FAULT it is the LAW from then on: nothing is left of the one ahead");
         AxesAtDawn x = Bench.after(DIG);
         x.law();
@@ -407,6 +408,39 @@ public final class BoundsLawTest {
         due(0, x.stops(7, 0));
         due(NONE, x.enough());
         due(2, x.fact(0, 16));
+    }
+
+    private static void promise7Without() {
+        Bench.says(7, "since N 0 to 9 (3 without), far N 0 to 999 (100 without): by each LAW, not by the one ahead");
+        String[] texts = {"odd when 0;", "since 9;far 999;", "", "far 0;since 0;", "since 4;", "far 101;", "\n"};
+        int[] since = {3, 9, 3, 0, 4, 3, 3};
+        int[] far = {100, 999, 100, 0, 100, 101, 100};
+        AxesAtDawn x = new AxesAtDawn();
+        for (int site = 0; site < 8; site++) {
+            x.layer(site, 0, 0);
+            x.here(9, site, 500 + site, 0, 0);
+            x.find(site, 0, 500 + site, 0, 9, 0, 77);
+        }
+        int[] ways = {0, 1, 99, 100, 101, 102, 998};
+        for (int i = 0; i < 7; i++) {
+            x.way(0, 1 + i, ways[i]);
+            x.here(i, 0, 500 - (i < 5 ? i : i + 4), 3, 3);
+        }
+        x.here(7, 0, 495, 3, 3);
+        for (int i = 0; i < texts.length; i++) {
+            due(0, Bench.law(x, texts[i]));
+            int who = 0;
+            for (int hand = 0; hand < 8; hand++) {
+                int ahead = hand == 7 ? 5 : hand < 5 ? hand : hand + 4;
+                who |= ahead > 0 && ahead <= since[i] ? 1 << hand : 0;
+            }
+            due(who, x.can(0));
+            int twins = 0;
+            for (int way : ways) {
+                twins += way > far[i] ? 1 : 0;
+            }
+            due(twins, x.fact(0, 16));
+        }
     }
 
     /** The E is 1 or more things at once: told as a bar line, it bars exactly if it is not 0. */
@@ -482,6 +516,16 @@ public final class BoundsLawTest {
         Bench.says(7, "a LAW as long as the TAPE");
         value(true, "1" + "+1".repeat(492) + "=493");
         value(false, "1" + "-1".repeat(490) + "+489");
+        Bench.says(7, "a LAW as long as the TAPE, read again and again");
+        AxesAtDawn x = Bench.after(DIG);
+        x.law();
+        for (int turn = 0; turn < 5; turn++) {
+            due(0, Bench.law(x, "1+".repeat(480).replaceFirst("1", "bar when 1") + turn + " = 480;"));
+            due(turn == 0 ? 2 : 0, x.each(5));
+            due(0, Bench.law(x, "bar when " + "rust*".repeat(190) + "1;"));
+            due(2, x.each(0));
+            due(0, x.each(2));
+        }
         fine("bar when 1;".repeat(6) + " ".repeat(934));
         faultAt(1, "bar when " + "1+".repeat(495) + "1|");
     }
@@ -500,10 +544,37 @@ public final class BoundsLawTest {
             due(1, x.each(0));
             due(2, x.each(2));
         }
+        Bench.says(10, "lines of rule and enough bar nothing, nor make it odd");
+        String zeros = "bar when 0;".repeat(6) + "odd when 0;".repeat(6);
+        StringBuilder others = new StringBuilder(zeros);
+        for (int rule = 0; rule < 8; rule++) {
+            others.append("rule ").append(rule).append(" stops 1;");
+        }
+        String[] texts = {zeros, others + "enough when 1;", others.substring(66), others.substring(132)};
+        for (String text : texts) {
+            AxesAtDawn y = Bench.after(DIG);
+            y.law();
+            due(0, Bench.law(y, text));
+            for (int find = 0; find < 6; find++) {
+                due(0, y.each(find));
+            }
+        }
         AxesAtDawn x = Bench.after(DIG);
         due(2, x.each(0));
         due(0, x.each(1));
         due(1, x.each(2));
+        Bench.says(10, "age (as its LAYER has it now); what is told later counts as if it had been told at once");
+        AxesAtDawn now = Bench.after(DIG);
+        now.law();
+        Bench.law(now, "bar when 1 = age;odd when alone;");
+        due(0, now.each(0));
+        due(1, now.each(1));
+        now.layer(0, 0, 1);
+        now.here(8, 1, 5, 14, 14);
+        due(2, now.each(0));
+        due(0, now.each(1));
+        now.layer(0, 0, 2);
+        due(0, now.each(0));
         Bench.says(10, "NONE: none such");
         Bench.outside(DIG, NONE, 0, 5, v -> y -> y.each(v));
         x.mark(1, true);

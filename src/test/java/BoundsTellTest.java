@@ -23,6 +23,8 @@ public final class BoundsTellTest {
     }
 
     private static void promise1New() {
+        Bench.says(1, "NONE = -1");
+        due(-1, AxesAtDawn.NONE);
         Bench.says(1, "No LAYER");
         AxesAtDawn x = new AxesAtDawn();
         due(0, x.count(7));
@@ -678,6 +680,16 @@ public final class BoundsTellTest {
             due(false, x.ground(claim, 0, 1));
         }
         due(36, x.count(4));
+        Bench.says(20, "3 at most each: of the CLAIM that is told first, and of one told last");
+        for (int claim = 0; claim < 12; claim++) {
+            AxesAtDawn y = new AxesAtDawn();
+            for (int i = 0; i < 3; i++) {
+                due(true, y.ground(claim, 0, 1 << i));
+            }
+            due(false, y.ground(claim, 0, 8));
+            due(true, y.ground(11 - claim, 0, 8));
+            due(4, y.count(4));
+        }
         Bench.says(20, "false: 3 are there");
         Bench.Calls full = BoundsTellTest::manyGrounds;
         due(36, Bench.after(full).count(4));
@@ -880,6 +892,30 @@ public final class BoundsTellTest {
         due(0, x.each(0));
     }
 
+    /** 511 calls, most of them refused. */
+    private static void manyCalls(AxesAtDawn x) {
+        x.layer(0, 0, 7);
+        x.here(0, 0, 0, 0, 1);
+        x.find(0, 0, 0, 1, 0, 0, 0);
+        for (int i = 0; i < 127; i++) {
+            x.layer(8, 0, i);
+            x.here(0, 1, 0, 1, 1);
+            x.find(0, 1, 0, 1, 0, 0, 0);
+            x.each(i);
+        }
+    }
+
+    private static void used512Times() {
+        Bench.says(1, "An object is used for at most 512 calls after it has been made: the 512th is answered, too");
+        Bench.Ask[] last = {x -> Bench.bit(x.layer(1, 1, 1)), x -> Bench.bit(x.here(1, 1, 1, 1, 1)), x -> x.can(0),
+            x -> x.find(0, 0, 0, 0, 0, 0, 0), x -> x.present(0, 0, 0), x -> x.fact(0, 8), x -> x.fact(1, 8),
+            x -> x.count(0), x -> x.law(), x -> x.feed(-1, 'a', 0), x -> Bench.bit(x.mark(4, false))};
+        long[] want = {1, 1, 1, 1, 1, 7, THROWS, 1, 0, 1, 0};
+        for (int i = 0; i < last.length; i++) {
+            due(want[i], Bench.answer(Bench.after(BoundsTellTest::manyCalls), last[i]));
+        }
+    }
+
     private static void promise39Count() {
         Bench.says(39, "NONE for another what");
         Bench.outside(DIG, NONE, 0, 7, v -> y -> y.count(v));
@@ -905,6 +941,7 @@ public final class BoundsTellTest {
         promise29Paper();
         promise31Mark();
         promise39Count();
+        used512Times();
         Bench.end();
     }
 }

@@ -1,3 +1,6 @@
+import static java.math.BigInteger.TWO;
+
+import java.math.BigInteger;
 import java.util.ArrayList;
 import java.util.List;
 
@@ -31,7 +34,7 @@ public final class BoundsWorldTest {
         final List<int[]> lines = new ArrayList<>();
         final List<int[]> found = new ArrayList<>();
         final List<List<Integer>> there = new ArrayList<>();
-        private long g;
+        private BigInteger g;
 
         /** HAND, SITE, DAY, from, to, and whether ALONE at all of them. */
         ByHand line(int hand, int site, int day, int from, int to, boolean alone) {
@@ -58,8 +61,8 @@ public final class BoundsWorldTest {
         }
 
         private int draw() {
-            g = (g * 1103515245L + 12345L) % 2147483648L;
-            return (int) (g / 65536L % 10L);
+            g = g.multiply(BigInteger.valueOf(1103515245)).add(BigInteger.valueOf(12345)).mod(TWO.pow(31));
+            return g.divide(BigInteger.valueOf(65536)).mod(BigInteger.TEN).intValue();
         }
 
         private int layer(int site) {
@@ -67,7 +70,7 @@ public final class BoundsWorldTest {
         }
 
         void live(int seed) {
-            g = seed;
+            g = BigInteger.valueOf(seed);
             found.clear();
             there.clear();
             for (int site = 0; site < 8; site++) {
@@ -284,7 +287,7 @@ public final class BoundsWorldTest {
             due(want[what], new AxesAtDawn().world(0, what));
             due(want[what], new AxesAtDawn().world(9999, what));
         }
-        Bench.says(35, "for each line of HERE, as told, for each of its HOURS: a line of one HOUR, of 24, of some again");
+        Bench.says(35, "for each line of HERE, as told, for each of its HOURS: one HOUR, 24, some again");
         ByHand w = new ByHand();
         w.layers[0] = new int[] {0, 9};
         w.layers[7] = new int[] {5};
@@ -297,10 +300,30 @@ public final class BoundsWorldTest {
             w.wealth[7][i] = 7;
         }
         due(true, w.compare(60) > 100);
+        promise35Draws();
         promise35Alone();
         promise35Nine();
         promise35Layers();
         promise35Most();
+    }
+
+    private static void promise35Draws() {
+        Bench.says(35, "A DRAW: g becomes (g * 1103515245 + 12345) modulo 2147483648, it is g / 65536, cut, modulo 10");
+        ByHand w = new ByHand();
+        w.layers[0] = new int[] {0};
+        w.skill[0] = 9;
+        w.wealth[0][0] = 9;
+        w.line(0, 0, 0, 7, 7, true);
+        AxesAtDawn x = w.told();
+        Bench.says(35, "g is the SEED (0 to 9999) at first: the STONE found tells two DRAWS of each");
+        int found = 0;
+        for (int seed = 0; seed < 10000; seed += seed < 20 || seed > 9970 ? 1 : 53) {
+            w.live(seed);
+            due(w.found.size(), x.world(seed, 0));
+            due(w.found.isEmpty() ? NONE : w.found.get(0)[4], x.found(seed, 0, 4));
+            found += w.found.size();
+        }
+        due(true, found > 100);
     }
 
     private static void promise35Alone() {
@@ -366,7 +389,7 @@ public final class BoundsWorldTest {
     }
 
     private static void promise35Layers() {
-        Bench.says(35, "of the told ones of the SITE, from 0 on, that of the number of a DRAW modulo how many there are");
+        Bench.says(35, "of the told ones of the SITE, from 0 on, that of the number of a DRAW modulo how many");
         for (int many = 1; many <= 10; many++) {
             ByHand w = new ByHand().line(1, 3, 0, 0, 23, true).line(2, 3, 1, 0, 11, true);
             w.layers[3] = new int[many];

@@ -31,7 +31,7 @@ public final class ModelTest {
     }
 
     public static void main(String[] args) {
-        int runs = args.length > 0 ? Integer.parseInt(args[0]) : 40;
+        int runs = args.length > 0 ? Integer.parseInt(args[0]) : 100;
         long from = args.length > 1 ? Long.parseLong(args[1]) : 0;
         for (long seed = from; seed < from + runs && wrong < 10; seed++) {
             ModelTest t = new ModelTest(seed);
@@ -211,7 +211,8 @@ public final class ModelTest {
         return switch (chance.nextInt(13)) {
             case 0, 1 -> "bar when " + e(FACTS, deep) + ";";
             case 2, 3 -> "odd when " + e(FACTS, deep) + ";\n";
-            case 4, 5, 9, 10, 11, 12 -> "rule " + chance.nextInt(chance.nextInt(10) == 0 ? 9 : 8) + " stops " + e(FACTS, deep) + ";";
+            case 4, 5, 9, 10, 11, 12 -> "rule " + chance.nextInt(chance.nextInt(10) == 0 ? 9 : 8) + " stops "
+                    + e(FACTS, deep) + ";";
             case 6 -> "since " + chance.nextInt(chance.nextInt(9) == 0 ? 11 : 10) + " ; ";
             case 7 -> "far " + chance.nextInt(chance.nextInt(9) == 0 ? 1100 : 200) + ";";
             default -> "enough when " + e(DAY_FACTS, deep) + ";";
